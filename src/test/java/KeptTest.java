@@ -203,6 +203,27 @@ public final class KeptTest {
             ask 1 31 = 961
             ask 1 32 = 1024
             kept 183 2 = 7
+            text 3 -9 = 2
+            ask 3 0 = -9
+            kept 353 2 = 3
+            text 3 99 = 1
+            ask 3 0 = 99
+            kept 353 2 = 4
+            text 3 99+1 = 3
+            ask 3 0 = 100
+            kept 353 2 = 5
+            text 3 -99*10-9 = 6
+            ask 3 0 = -999
+            kept 353 2 = 5
+            text 3 99*10+10 = 5
+            ask 3 0 = 1000
+            kept 353 2 = 6
+            text 3 99*99+99+99 = 7
+            ask 3 0 = 9999
+            kept 353 2 = 6
+            text 3 0 = 1
+            ask 3 0 = 0
+            kept 353 2 = 3
             """);
     }
 
@@ -358,6 +379,20 @@ public final class KeptTest {
             chain 252 = 1
             heirs 252 = 1
             heirs 52 = 1
+            """);
+        Script.run("promise 18, told twice", """
+            text 0 c0 = 1
+            text 1 f0(x) = 2
+            text 2 f1(x) = 2
+            ask 2 0 = 0
+            ask 2 0 = 0
+            ask 0 0 = 0
+            chain 252 = 3
+            bound 10 = 60
+            kept 151 0 = NOT
+            chain 252 = 1
+            would 0 = 2               # what is gone isn't looked at
+            heirs 50 = 0
             """);
         Script.run("promise 18, a long one", """
             text 0 x<1?1:f0(x-1) = 9

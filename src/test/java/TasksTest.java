@@ -52,6 +52,27 @@ public final class TasksTest {
             task 2 4 = 0
             task 2 5 = 100
             led 6 = 1
+            step 0 2 = 2
+            task 0 3 = 2              # since it started again
+            stop 2 = 0
+            start 2 0 49 = 1
+            task 2 3 = 0
+            """);
+        Script.run("promise 21, a failed one starts again", """
+            text 0 x/0 = 3
+            text 1 x+1 = 3
+            start 0 0 5 = 1
+            step 0 9 = 3
+            task 0 1 = -10002
+            start 0 1 5 = 1
+            task 0 1 = NOT
+            task 0 3 = 0
+            step 0 9 = 3
+            task 0 1 = 6
+            start 0 1 5 = 3
+            task 0 1 = 6
+            task 0 3 = 0
+            kept 156 4 = 2
             """);
     }
 
@@ -374,6 +395,25 @@ public final class TasksTest {
             step 1 9 = 5
             step 0 9 = 1
             task 0 1 = 20
+            """);
+        Script.run("a TASK that waits without FRAMES waits on", """
+            text 0 x+c0 = 3
+            start 1 0 2 = 1
+            step 1 2 = 2
+            stop 1 = 1
+            start 0 0 3 = 1
+            start 1 0 3 = 2
+            led 1 = 2
+            set 0 5 = 0
+            task 1 0 = 2
+            task 1 2 = 0
+            led 1 = 2
+            text 0 x*c0 = 3
+            task 1 0 = 2
+            led 1 = 3
+            step 0 9 = 3
+            step 1 9 = 0
+            task 1 1 = 15
             """);
         Script.run("a HIT is used, too", """
             text 0 f1(x)+x+x = 6
