@@ -404,7 +404,7 @@ public final class MemoByWeight {
             return;
         }
         Frame top = run.top();
-        if (top == null || !top.text.stands()) {
+        if (top == null || !top.hasText()) {
             fail(run, BY_NO_TEXT);
         }
     }
@@ -893,6 +893,10 @@ public final class MemoByWeight {
             partsSize = 0;
         }
 
+        boolean hasText() {
+            return text != null && text.stands();
+        }
+
         int argument() {
             return key % ARGUMENTS - ARGUMENT_MOST;
         }
@@ -942,7 +946,7 @@ public final class MemoByWeight {
 
         /** JUMPS are no STEPS: they are passed over as soon as they stand ahead. */
         boolean isWorkedOut() {
-            if (text == null || !text.stands()) {
+            if (!hasText()) {
                 return false;
             }
             for (int i = 0; i < TAPE_MOST && at >= 0 && at < text.size; i++) {
