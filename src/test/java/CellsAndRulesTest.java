@@ -223,12 +223,12 @@ public final class CellsAndRulesTest {
             text 0 (x?(x?(x?1:1):1):1) = -108
             text 0 (x?(x?(x)+1:1):1) = 9
             """);
-        Script most = new Script("promise 3, 100 bytes");
-        most.say("text 0 " + "x+".repeat(49) + "xx = -199");
-        most.say("text 0 " + "x+".repeat(50) + " = -200");
-        most.say("text 0 -" + "x+".repeat(49) + "x = 100");
-        most.say("text 0 " + "x?1:".repeat(24) + "1?2 = -199");
-        most.say("text 0 " + "x?1:".repeat(24) + "1 = 73");
+        String name = "promise 3, 100 bytes";
+        Script.run(name, "text 0 " + "x+".repeat(49) + "xx = -199");
+        Script.run(name, "text 0 " + "x+".repeat(50) + " = -200");
+        Script.run(name, "text 0 -" + "x+".repeat(49) + "x = 100");
+        Script.run(name, "text 0 " + "x?1:".repeat(24) + "1?2 = -199");
+        Script most = Script.run(name, "text 0 " + "x?1:".repeat(24) + "1 = 73");
         most.say("ask 0 0 = 1");
         most.say("steps = 49");
         most.say("ask 0 1 = 1");

@@ -1,17 +1,40 @@
+import java.util.ArrayList;
 import java.util.Arrays;
+import java.util.List;
 
 /**
- * Calls on one object, written as lines "call numbers = answer due".
+ * Calls on one object, written as lines "call numbers = answer due"; MIN and MAX are int's own least and most.
  * "text R TEXT = answer" feeds the TEXT's bytes and then calls rule(R); "tape TEXT" only feeds them.
  * What stands behind # is passed over.
+ * A call that is refused (BAD, NOT, STATE, FULL is due) must change nothing: that is looked at, too.
  */
 final class Script {
+    /** What later calls answer is free. */
+    static final int CALLS_MOST = 512;
+    // The looks behind a refusal are calls, too.
+    private static final int CALLS_AHEAD_OF_LOOKS = 480;
+
+    record Call(String name, int... n) {
+        int on(MemoByWeight x) {
+            return call(x, name, n);
+        }
+
+        @Override
+        public String toString() {
+            return name + Arrays.toString(n);
+        }
+    }
+
     private static int wrong = 0;
+    private static int scripts = 0;
     private final String name;
     private final MemoByWeight x = new MemoByWeight();
+    private final List<Call> calls = new ArrayList<>();
+    private List<String> looksBefore;
 
     Script(String name) {
         this.name = name;
+        scripts++;
     }
 
     /** A whole script on a new object. */
@@ -22,7 +45,8 @@ final class Script {
     }
 
     static void end() {
-        System.out.println(wrong == 0 ? "all answers are as due" : wrong + " answers are not as due");
+        String all = scripts == 0 ? "" : scripts + " scripts: ";
+        System.out.println(all + (wrong == 0 ? "all answers are as due" : wrong + " answers are not as due"));
         if (wrong != 0) {
             System.exit(1);
         }
@@ -48,35 +72,70 @@ final class Script {
             feedAll(words.length > 1 ? words[1] : "");
             return;
         }
-        int is = line.lastIndexOf('=');
+        int is = line.lastIndexOf(" = ");
+        String[] parts = line.substring(0, is).strip().split(" +");
+        String want = line.substring(is + 3).strip();
         if (words[0].equals("text")) {
-            String[] parts = line.substring(0, is).strip().split(" +");
             feedAll(parts.length > 2 ? parts[2] : "");
-            due(line, x.rule(Integer.parseInt(parts[1])), line.substring(is + 1).strip());
+            due(line, new Call("rule", number(parts[1])), want);
             return;
         }
-        String[] parts = line.substring(0, is).strip().split(" +");
-        int[] n = Arrays.stream(parts).skip(1).mapToInt(Integer::parseInt).toArray();
-        due(line, call(x, parts[0], n), line.substring(is + 1).strip());
+        due(line, new Call(parts[0], Arrays.stream(parts).skip(1).mapToInt(Script::number).toArray()), want);
+    }
+
+    private static int number(String told) {
+        return switch (told) {
+            case "MIN" -> Integer.MIN_VALUE;
+            case "MAX" -> Integer.MAX_VALUE;
+            default -> Integer.parseInt(told);
+        };
     }
 
     private void feedAll(String text) {
+        int had = text.isEmpty() ? 0 : x.count(3);
         for (int i = 0; i < text.length(); i++) {
-            int had = x.count(3);
-            due("feed " + text.charAt(i) + " of " + text, x.feed(text.charAt(i)), "" + (had + 1));
+            due("feed " + text.charAt(i) + " of " + text, new Call("feed", text.charAt(i)), "" + (had + i + 1));
         }
     }
 
-    private void due(String line, int got, String want) {
+    private void due(String line, Call call, String want) {
         int due = switch (want) {
             case "BAD" -> MemoByWeight.BAD;
             case "NOT" -> MemoByWeight.NOT;
             case "STATE" -> MemoByWeight.STATE;
             case "FULL" -> MemoByWeight.FULL;
-            default -> Integer.parseInt(want);
+            default -> number(want);
         };
+        boolean refused = due >= MemoByWeight.FULL && due <= MemoByWeight.BAD;
+        if (refused && calls.size() >= CALLS_AHEAD_OF_LOOKS) {
+            wrong(name + ": " + line + ": no calls are left to look at what a refusal changed");
+        }
+        if (refused && looksBefore == null) {
+            looksBefore = Looks.after(calls);
+        }
+        int got = call.on(x);
         if (got != due) {
             wrong(name + ": " + line + ": answered " + got);
+        }
+        calls.add(call);
+        if (calls.size() == CALLS_MOST + 1) {
+            wrong(name + ": more calls on one object than are promised");
+        }
+        if (refused) {
+            changedNothing(line);
+        } else {
+            looksBefore = null;
+        }
+    }
+
+    private void changedNothing(String line) {
+        List<String> looks = Looks.after(calls);
+        for (int i = 0; i < Math.min(looks.size(), looksBefore.size()); i++) {
+            if (!looks.get(i).equals(looksBefore.get(i))) {
+                wrong(name + ": " + line + ": is refused, but changed " + looksBefore.get(i) + " to " + looks.get(i));
+                looksBefore = looks;
+                return;
+            }
         }
     }
 
