@@ -18,6 +18,7 @@ public final class AskBoundariesTest {
         whatStays();
         steps();
         fresh();
+        freshAsksOnce();
         freshIsInThought();
         Script.end();
     }
@@ -543,6 +544,17 @@ public final class AskBoundariesTest {
             drop 0 = 0
             fresh 0 1 = -10005
             """);
+    }
+
+    private static void freshAsksOnce() {
+        for (String rule : "0 11".split(" ")) {
+            String key = rule.equals("0") ? "0(-50)" : "11(50)";
+            String twelve = ("+f" + key).repeat(12).substring(1);
+            int nodes = rule.equals("0") ? 47 : 35;
+            Script asks = new Script("section 4: FRESH: what ASK would answer: a KEY that was worked out is KEPT in thought");
+            asks.say("text " + rule + " 1" + "+0".repeat(48) + " = 97\ntext 1 " + twelve + " = " + nodes);
+            asks.say("text 2 f1(0)+f1(1) = 5\nfresh 2 0 = 24\nbound 1 = 60\nask 2 0 = -10006");
+        }
     }
 
     private static void freshIsInThought() {

@@ -233,10 +233,6 @@ public final class CellsAndRulesTest {
         most.say("steps = 49");
         most.say("ask 0 1 = 1");
         most.say("steps = 3");
-        String deepest = "1<1+1*";
-        most.say("text 0 " + (deepest + "(").repeat(5) + deepest + "1" + ")".repeat(5) + " = 37");
-        most.say("ask 0 0 = 1");
-        most.say("steps = 37");
         String calls = "f1(f2(f3(f4(f5(x)))))";
         most.say("text 0 " + calls + "+f6(x)+f7(x)+f8(x) = 15");
     }

@@ -163,6 +163,7 @@ public final class ChangeBoundariesTest {
             stop 2 = 1
             set 0 5 = 1
             led 1 = 3
+            count 0 = 0
             task 0 0 = 3
             task 0 1 = 3
             task 1 0 = 4
@@ -349,6 +350,36 @@ public final class ChangeBoundariesTest {
             step 0 3 = 3
             task 0 0 = 2
             task 0 4 = 1
+            """);
+        Script.run("section 3: FRAMES above it go: what they USED begins nothing anew", """
+            text 0 c0+f1(x) = 4
+            text 1 c1+x = 3
+            start 0 0 3 = 1
+            step 0 4 = 4
+            task 0 2 = 2
+            set 0 1 = 0
+            led 1 = 3
+            set 1 1 = 0
+            text 1 x+c1 = 3
+            led 1 = 3
+            task 0 2 = 1
+            step 0 100 = 7
+            task 0 1 = 5
+            """);
+        Script.run("section 3: FRAMES of an earlier run of the TASK are none", """
+            text 0 c0+f1(x) = 4
+            text 1 c1+x = 3
+            start 0 0 3 = 1
+            step 0 4 = 4
+            stop 0 = 2
+            start 1 0 3 = 1
+            start 0 0 3 = 2
+            set 0 1 = 0
+            set 1 1 = 0
+            led 1 = 3
+            task 0 0 = 2
+            task 0 2 = 0
+            task 1 2 = 1
             """);
         Script.run("section 3: FRAMES above it that have ended stay KEPT", """
             text 0 c0+f1(x)+x = 6

@@ -5,6 +5,7 @@ public final class KeptBoundariesTest {
         weights();
         bounds();
         whatGoes();
+        whatGoesMakesRoom();
         theNewOne();
         policies();
         likeOnes();
@@ -238,6 +239,19 @@ public final class KeptBoundariesTest {
             count 1 = 9
             led 4 = 2
             """);
+    }
+
+    private static void whatGoesMakesRoom() {
+        StringBuilder lines = new StringBuilder("text 0 x = 1\nbound 9 = 60\n");
+        for (int i = 0; i < 10; i++) {
+            lines.append("ask 0 %d = %d\n".formatted(i, i));
+            int first = Math.max(0, i - 2);
+            for (int k = first; k <= i; k++) {
+                lines.append("key 1 %d = %d\n".formatted(k - first, 50 + k));
+                lines.append("kept %d 0 = %d\nkept %d 3 = %d\n".formatted(50 + k, k, 50 + k, k + 1));
+            }
+        }
+        Script.run("section 2: what goes makes room for the next one, the others stay as they are", lines + "led 4 = 7");
     }
 
     private static void theNewOne() {
@@ -718,6 +732,35 @@ public final class KeptBoundariesTest {
             chain 152 = 2
             chain 253 = 3
             chain 353 = 4
+            """);
+        Script.run("section 4: CHAIN and HEIRS, whatever the order in which they were KEPT", """
+            text 0 x = 1
+            text 1 f0(x) = 2
+            text 2 f1(x) = 2
+            ask 2 1 = 1
+            ask 1 1 = 1
+            ask 2 1 = 1
+            bound 10 = 60
+            kept 51 0 = NOT
+            chain 253 = 2
+            heirs 152 = 1
+            bound 60 = 10
+            ask 0 1 = 1
+            ask 2 1 = 1
+            ask 0 1 = 1
+            bound 10 = 60
+            kept 152 0 = NOT
+            bound 60 = 10
+            ask 1 1 = 1
+            key 1 0 = 253
+            key 1 1 = 51
+            key 1 2 = 152
+            chain 253 = 3
+            chain 152 = 2
+            chain 51 = 1
+            heirs 51 = 2
+            heirs 152 = 1
+            heirs 253 = 0
             """);
         Script.run("section 4: CHAIN: each KEPT: what is gone breaks the row", """
             text 0 x = 1

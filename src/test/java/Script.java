@@ -1,6 +1,8 @@
 import java.util.ArrayList;
 import java.util.Arrays;
 import java.util.List;
+import java.util.Set;
+import java.util.TreeSet;
 
 /**
  * Calls on one object, written as lines "call numbers = answer due"; MIN and MAX are int's own least and most.
@@ -25,8 +27,11 @@ final class Script {
         }
     }
 
+    /** Names of scripts, and "call refusal" for each refusal that was due and came. */
+    static final List<String> NAMES = new ArrayList<>();
+    static final Set<String> REFUSED = new TreeSet<>();
+
     private static int wrong = 0;
-    private static int scripts = 0;
     private final String name;
     private final MemoByWeight x = new MemoByWeight();
     private final List<Call> calls = new ArrayList<>();
@@ -34,7 +39,7 @@ final class Script {
 
     Script(String name) {
         this.name = name;
-        scripts++;
+        NAMES.add(name);
     }
 
     /** A whole script on a new object. */
@@ -45,7 +50,7 @@ final class Script {
     }
 
     static void end() {
-        String all = scripts == 0 ? "" : scripts + " scripts: ";
+        String all = NAMES.isEmpty() ? "" : NAMES.size() + " scripts: ";
         System.out.println(all + (wrong == 0 ? "all answers are as due" : wrong + " answers are not as due"));
         if (wrong != 0) {
             System.exit(1);
@@ -122,6 +127,7 @@ final class Script {
             wrong(name + ": more calls on one object than are promised");
         }
         if (refused) {
+            REFUSED.add(call.name + " " + want);
             changedNothing(line);
         } else {
             looksBefore = null;

@@ -14,6 +14,7 @@ public final class TaskBoundariesTest {
         noRings();
         fails();
         longTasks();
+        longWaits();
         askAndTasks();
         Script.end();
     }
@@ -65,6 +66,24 @@ public final class TaskBoundariesTest {
             led 6 = 1
             task 0 4 = 1
             task 0 5 = 53
+            """);
+        Script.run("promise 21: BAD leaves a TASK that ended, failed or is idle as it is", """
+            text 0 x+x = 3
+            text 1 1/0 = 3
+            start 0 0 3 = 1
+            step 0 9 = 3
+            start 0 12 3 = BAD
+            start 0 0 51 = BAD
+            task 0 0 = 3
+            task 0 1 = 6
+            task 0 3 = 3
+            start 1 1 3 = 1
+            step 1 9 = 3
+            start 1 -1 3 = BAD
+            start 1 0 -51 = BAD
+            task 1 1 = -10002
+            start 2 12 3 = BAD
+            task 2 0 = 0
             """);
         Script.run("promise 21: BAD is ahead of STATE", """
             text 0 x+x = 3
@@ -790,6 +809,40 @@ public final class TaskBoundariesTest {
             task 0 0 = 3
             task 0 1 = 50
             kept 50 1 = 99
+            """);
+    }
+
+    /** The call that is the last NODE, and waits, is the 2000th STEP. */
+    private static void longWaits() {
+        StringBuilder at2000 = new StringBuilder("text 0 c0" + "-x".repeat(44) + "?f1(x):1 = 93\ntext 1 c5+7 = 3\n"
+            + "start 1 1 0 = 1\nset 0 99 = 0\nstart 0 0 0 = 1\n");
+        for (int i = 1; i <= 20; i++) {
+            at2000.append("step 0 91 = 91\nset 0 ").append(i).append(" = 0\n");
+        }
+        at2000.append("step 0 88 = 88\nset 0 50 = 0\nstep 0 100 = 92\ntask 0 3 = 2000\ntask 0 0 = 2\n");
+        Script.run("section 3: 6: a wait of the 2000th STEP that ends by a HIT needs no STEP", at2000 + """
+            step 1 9 = 3
+            step 0 1 = 0
+            task 0 0 = 3
+            task 0 1 = 7
+            task 0 3 = 2000
+            """);
+        Script.run("section 3: 6: a wait of the 2000th STEP that ends by a FRAME more: a 2001st STEP would come", at2000 + """
+            led 1 = 23
+            stop 1 = 1
+            step 0 1 = 0
+            task 0 0 = 4
+            task 0 1 = -10006
+            task 0 3 = 2000
+            led 1 = 24
+            led 2 = 1
+            """);
+        Script.run("section 3: 6: begun anew without a TEXT it FAILS by 5, ahead of any STEP, also of the 2001st", at2000 + """
+            drop 0 = 0
+            task 0 0 = 1
+            step 0 1 = 0
+            task 0 1 = -10005
+            task 0 3 = 2000
             """);
     }
 

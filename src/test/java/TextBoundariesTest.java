@@ -11,6 +11,7 @@ public final class TextBoundariesTest {
         whatIsNotOpen();
         faults();
         order();
+        deepest();
         division();
         comparisons();
         Script.end();
@@ -518,6 +519,17 @@ public final class TextBoundariesTest {
             ask 1 0 = 0
             steps = 2
             """);
+    }
+
+    /** Each 0<1-2*( ) turns 1 and 0 around, six of them leave them as they are. */
+    private static void deepest() {
+        String part = "0<1-2*";
+        String text = (part + "(").repeat(5) + part + "x" + ")".repeat(5);
+        Script.run("section 1: a NODE, when its parts are worked out: as many as can wait in 5 brackets",
+            "text 0 " + text + " = 37\nask 0 0 = 0\nsteps = 37\nask 0 1 = 1\nfresh 0 0 = 0\nfresh 0 1 = 1");
+        String choice = "0<1-2*(x<2?0<1-2*(x<2?0<1-2*x:9):9)";
+        Script.run("section 1: a NODE, when its parts are worked out: in choices, too",
+            "text 0 " + choice + " = 29\nask 0 0 = 1\nsteps = 27\nask 0 1 = 0\nask 0 2 = 0\nsteps = 11");
     }
 
     private static void division() {
