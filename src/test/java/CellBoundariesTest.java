@@ -2,6 +2,7 @@
 public final class CellBoundariesTest {
     public static void main(String[] args) {
         newObject();
+        lastCalls();
         ranges();
         keys();
         feed();
@@ -44,6 +45,17 @@ public final class CellBoundariesTest {
                 + "stop % = STATE\nstep % 1 = STATE\nframe % 0 = NOT";
             tasks.say(lines.replace("%", "" + task));
         }
+    }
+
+    /** Four bytes and rule(), set(), bound(), 500 asks by turns, and five looks: 512 calls. */
+    private static void lastCalls() {
+        Script last = new Script("what it is: an object is used for at most 512 calls: the last ones answer as any");
+        last.say("text 0 c0+x = 3\nset 0 5 = 0\nbound 12 = 60");
+        for (int i = 0; i < 500; i++) {
+            int argument = i % 4;
+            last.say("ask 0 %d = %d".formatted(argument, argument + 5));
+        }
+        last.say("count 4 = 500\nled 0 = 496\nled 5 = 4\nset 0 6 = 4\nwave 3 = 53");
     }
 
     private static void ranges() {
