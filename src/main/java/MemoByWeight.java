@@ -592,16 +592,13 @@ public final class MemoByWeight {
                 return;
             }
             run.depth--;
-            keep(run, top);
+            if (run.kind == Run.IN_THOUGHT) {
+                thought.hold(top.key, top.value());
+            } else {
+                store.keep(top, run.steps - top.stepsBefore);
+                store.shrink();
+            }
             run.give(top.key, top.value(), top.used);
-        }
-    }
-
-    private void keep(Run run, Frame ended) {
-        if (run.kind == Run.IN_THOUGHT) {
-            thought.hold(ended.key, ended.value());
-        } else {
-            store.keep(ended, run.steps - ended.stepsBefore);
         }
     }
 
@@ -930,8 +927,7 @@ public final class MemoByWeight {
         }
 
         /** Its call has the VALUE of the KEY that it asked. */
-        void take(int askedKey, int value, int usedByIt) {
-            push(value);
+        void noteAsked(int askedKey, int usedByIt) {
             used |= usedByIt;
             for (int i = 0; i < askedSize; i++) {
                 if (asked[i] == askedKey) {
@@ -1040,7 +1036,8 @@ public final class MemoByWeight {
                 return;
             }
             state = RUNNING;
-            top.take(key, itsValue, itsUsed);
+            top.push(itsValue);
+            top.noteAsked(key, itsUsed);
         }
 
         void waitFor(int task, int key) {
@@ -1194,6 +1191,7 @@ public final class MemoByWeight {
             return NOT;
         }
 
+        /** There is a row for it, as shrink() follows. */
         void keep(Frame ended, int cost) {
             if (find(ended.key) != null || !within(ended.key, KEYS) || size >= ROWS) {
                 return;
@@ -1204,7 +1202,6 @@ public final class MemoByWeight {
             byKey[row.key] = row;
             weights += row.weight;
             everKept++;
-            shrink();
         }
 
         void shrink() {
