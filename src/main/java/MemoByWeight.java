@@ -1191,7 +1191,7 @@ public final class MemoByWeight {
             return NOT;
         }
 
-        /** There is a row for it, as shrink() follows. */
+        // A row is always free for it, as shrink() follows each time.
         void keep(Frame ended, int cost) {
             if (find(ended.key) != null || !within(ended.key, KEYS) || size >= ROWS) {
                 return;
